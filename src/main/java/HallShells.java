@@ -993,17 +993,6 @@ public final class HallShells {
             System.arraycopy(other.firstHolder, 0, firstHolder, 0, MOST_SHELLS);
             laws.copyFrom(other.laws);
         }
-
-        /** The currents that begin at one of these BEACHES, as bits. */
-        int leaving(int set) {
-            int currentsOut = 0;
-            for (int k = 0; k < currents; k++) {
-                if ((set >> from[k] & 1) == 1) {
-                    currentsOut |= 1 << k;
-                }
-            }
-            return currentsOut;
-        }
     }
 
     /** The laws of a sea, as code that works on a stack. */
@@ -1638,11 +1627,11 @@ public final class HallShells {
 
         private void goOut(Sea sea, int open) {
             for (int w = 0; w < words; w++) {
-                int out = open & ~gone[w] & sea.leaving(at[w]);
-                gone[w] |= out;
-                under[w] |= out;
-                for (int k = 0; k < sea.currents; k++) {
-                    if ((out >> k & 1) == 1) {
+                int ungone = open & ~gone[w];
+                for (int k = 0; k < sea.currents && ungone != 0; k++) {
+                    if ((ungone >> k & at[w] >> sea.from[k] & 1) == 1) {
+                        gone[w] |= 1 << k;
+                        under[w] |= 1 << k;
                         left[w * MOST_CURRENTS + k] = sea.takes[k];
                     }
                 }
@@ -1651,7 +1640,7 @@ public final class HallShells {
 
         private void comeIn(Sea sea) {
             for (int w = 0; w < words; w++) {
-                for (int k = 0; k < sea.currents; k++) {
+                for (int k = 0; k < sea.currents && under[w] != 0; k++) {
                     if ((under[w] >> k & 1) == 1) {
                         left[w * MOST_CURRENTS + k]--;
                         if (left[w * MOST_CURRENTS + k] == 0) {
