@@ -1615,11 +1615,10 @@ public final class HallShells {
             comeIn(sea);
             int first = 0;
             for (int p = 0; p < sea.people; p++) {
-                int before = heardBy[p];
-                int listening = rules.listeners(hour, gale > 0, Integer.bitCount(before));
-                if ((listening >> p & 1) == 1) {
+                int before = Integer.bitCount(heardBy[p]);
+                if (before < words && (rules.listeners(hour, gale > 0, before) >> p & 1) == 1) {
                     heardBy[p] |= wordsAt(audible(sea, p));
-                    first += Integer.bitCount(heardBy[p]) - Integer.bitCount(before);
+                    first += Integer.bitCount(heardBy[p]) - before;
                 }
             }
             return first;

@@ -87,6 +87,10 @@ public final class FaultsTest {
         due("sea 2;hour;", 2, 10);
         due("sea 2;gale :", 2, 11);
         due("sea 2;at 0;", 2, 6);
+        due("sea 2;az;", 2, 6);
+        due("sea 2;zebra;", 2, 6);
+        due("sea 2;hou 1;", 2, 6);
+        due("sea 2;hours 1;", 2, 6);
         due("sea 2;takes;", 2, 6);
         due("sea 2;-", 2, 6);
     }
@@ -144,6 +148,8 @@ public final class FaultsTest {
         fine("sea 2;open:from=to or takes<hour and not gale>1;");
         fine("sea 2;listens:who+home*words>hour-gale;");
         fine("sea 2;open:(1+2)*3=(4);");
+        fine("sea 1;sounds:" + "1+".repeat(442) + "1;");
+        fine("sea 1;" + "sounds:1;".repeat(99));
         for (String word : new String[] {"from", "to", "takes", "who", "home", "words", "sounds", "or", "not", "sea"}) {
             due("sea 2;sounds:" + word + ";", 2, 13);
         }
@@ -165,6 +171,12 @@ public final class FaultsTest {
         due("sea 2;open:1;", 2, 12);
         due("sea 2;open:1=1=1;", 2, 14);
         due("sea 2;open:1=1 or;", 2, 17);
+        due("sea 2;open:1=1 and;", 2, 18);
+        due("sea 2;open:1=1 or;hour 1;", 2, 17);
+        due("sea 2;open:1=1 and ;hour 1;", 2, 19);
+        due("sea 2;sounds:1*;hour 1;", 2, 15);
+        due("sea 2;sounds:1-;hour 1;", 2, 15);
+        due("sea 2;open:not ;hour 1;", 2, 15);
         due("sea 2;open:1=1 not 1=1;", 2, 15);
         due("sea 2;open:not;", 2, 14);
         due("sea 2;open:[1=1);", 2, 15);

@@ -237,6 +237,26 @@ public final class PromisesTest {
         x.hours(3);
         due("words", x.person(0, 4), 0);
         due("who, hour", x.person(1, 4), 1);
+        x = of("sea 1;person at 0;listens: gale = 1 or words > 6 and hour - hour * hour = 0 or words = 0;");
+        x.hours(1);
+        due("words 0", x.person(0, 4), 1);
+        for (int w = 0; w < 7; w++) {
+            x.whisper(0);
+        }
+        x.hours(23);
+        due("words 7, hour 0", x.person(0, 4), 1);
+        x.hours(2);
+        due("words 7, hour 2", x.person(0, 4), 0);
+        x.gale(1);
+        due("a gale", x.person(0, 4), 1);
+        x.whisper(0);
+        due("not in hour 3", x.hours(1), 0);
+        x.gale(2);
+        due("in the gale", x.hours(1), 1);
+        x.gale(0);
+        due("words 8, hour 4", x.person(0, 4), 0);
+        x.hours(20);
+        due("words 8, hour 0", x.person(0, 4), 1);
     }
 
     private static void tellsShell() {
