@@ -13,7 +13,7 @@ import java.util.regex.Matcher;
 import java.util.regex.Pattern;
 
 /** The class's face, and the rules of LANGUAGE.md that can be seen from outside or in its source. */
-public final class LanguageTest {
+public final class LanguageTest extends Sheet {
     private static final String FACE = """
         int feed(int, int, int, int, int)
         int sea(int)
@@ -64,24 +64,14 @@ public final class LanguageTest {
         int restore(int)
         int count(int)
         """;
-    private static int wrong = 0;
-
-    private static void must(boolean so, String what) {
-        if (!so) {
-            wrong++;
-            System.out.println(what);
-        }
-    }
 
     public static void main(String[] args) throws Exception {
+        about("language");
         face();
         classesInside();
         String path = System.getProperty("hallshells.source", "src/main/java/HallShells.java");
         source(withoutComments(Files.readString(Path.of(path))));
-        System.out.println(wrong == 0 ? "the language is kept to" : wrong + " things are outside the language");
-        if (wrong != 0) {
-            System.exit(1);
-        }
+        end("the language is kept to");
     }
 
     private static void face() {

@@ -1,48 +1,9 @@
-import java.nio.charset.StandardCharsets;
-
 /** Each promise of the document by number, with answers that were worked out by hand. */
-public final class PromisesTest {
-    private static final int NONE = HallShells.NONE;
-    private static int wrong = 0;
-    private static int promise = 0;
-
+public final class PromisesTest extends Sheet {
     /** Three beaches in a ring, four people, four shells, a gale for this hour alone. */
     private static final String RING = "sea 3;current 0 1 takes 2;current 1 2 takes 1;current 2 0 takes 3;"
         + "person at 0;person at 2;person;person at 1 deaf;"
         + "shell 1 by 2;shell 2 by 0;shell 0;shell 1 by 3;hour 10;gale 1;";
-
-    private static void due(String call, long got, long want) {
-        if (got != want) {
-            wrong++;
-            System.out.println("promise " + promise + ": " + call + " answered " + got + ", due is " + want);
-        }
-    }
-
-    private static void feed(HallShells x, String text) {
-        byte[] bytes = text.getBytes(StandardCharsets.ISO_8859_1);
-        for (int i = 0; i < bytes.length; i += 20) {
-            int[] fours = new int[5];
-            for (int j = 0; j < 20; j++) {
-                fours[j / 4] = fours[j / 4] << 8 | (i + j < bytes.length ? bytes[i + j] & 255 : 32);
-            }
-            x.feed(fours[0], fours[1], fours[2], fours[3], fours[4]);
-        }
-    }
-
-    private static HallShells of(String text) {
-        HallShells x = new HallShells();
-        feed(x, text);
-        int lines = (int) text.chars().filter(c -> c == ';').count();
-        due("sea of " + text, x.sea(text.length()), lines);
-        return x;
-    }
-
-    private static void fill(HallShells x, int tray, int sort, long... numbers) {
-        due("numbers", x.numbers(tray, sort, numbers.length), 0);
-        for (int i = 0; i < numbers.length; i++) {
-            due("write " + i, x.write(tray, i, numbers[i]), numbers[i]);
-        }
-    }
 
     public static void main(String[] args) {
         newObject();
@@ -94,14 +55,11 @@ public final class PromisesTest {
         images();
         restores();
         counts();
-        System.out.println(wrong == 0 ? "all promises hold" : wrong + " answers are not as promised");
-        if (wrong != 0) {
-            System.exit(1);
-        }
+        end("all promises hold");
     }
 
     private static void newObject() {
-        promise = 1;
+        about("promise 1");
         HallShells x = new HallShells();
         int[] counts = {1, 0, 0, 0, 0, 0, 0, 0, 0, 0};
         for (int i = 0; i < 10; i++) {
@@ -116,7 +74,7 @@ public final class PromisesTest {
     }
 
     private static void feedsTape() {
-        promise = 2;
+        about("promise 2");
         HallShells x = new HallShells();
         for (int i = 1; i <= 45; i++) {
             due("feed " + i, x.feed(0, -1, i, 0, 0), 20 * i);
@@ -131,7 +89,7 @@ public final class PromisesTest {
     }
 
     private static void readsSea() {
-        promise = 3;
+        about("promise 3");
         HallShells x = of("sea 2;person at 1;shell 0 by 0;hour 7;gale 3;");
         due("x", x.seed(5), 0);
         due("whisper", x.whisper(0), 0);
@@ -168,7 +126,7 @@ public final class PromisesTest {
     }
 
     private static void tellsFault() {
-        promise = 4;
+        about("promise 4");
         HallShells x = new HallShells();
         due("none read", x.fault(0), 0);
         due("none read", x.fault(1), NONE);
@@ -187,7 +145,7 @@ public final class PromisesTest {
     }
 
     private static void tellsCurrent() {
-        promise = 5;
+        about("promise 5");
         HallShells x = of(RING);
         due("from", x.current(2, 0), 2);
         due("to", x.current(2, 1), 0);
@@ -209,7 +167,7 @@ public final class PromisesTest {
     }
 
     private static void tellsPerson() {
-        promise = 6;
+        about("promise 6");
         HallShells x = of(RING);
         due("beach", x.person(1, 0), 2);
         due("inland", x.person(2, 0), NONE);
@@ -260,7 +218,7 @@ public final class PromisesTest {
     }
 
     private static void tellsShell() {
-        promise = 7;
+        about("promise 7");
         HallShells x = of(RING);
         due("from", x.shell(1, 0), 2);
         due("by", x.shell(1, 1), 0);
@@ -274,7 +232,7 @@ public final class PromisesTest {
     }
 
     private static void tellsWord() {
-        promise = 8;
+        about("promise 8");
         HallShells x = of("sea 3;current 0 1 takes 2;current 0 2 takes 1;current 1 0 takes 1;person at 2;");
         due("none", x.word(0, 0), -2);
         x.whisper(0);
@@ -297,7 +255,7 @@ public final class PromisesTest {
     }
 
     private static void tellsSound() {
-        promise = 9;
+        about("promise 9");
         HallShells x = of(RING);
         due("in the gale", x.sound(2, 0), 21);
         due("behind it", x.sound(2, 999), 20);
@@ -323,7 +281,7 @@ public final class PromisesTest {
     }
 
     private static void seeds() {
-        promise = 10;
+        about("promise 10");
         HallShells x = new HallShells();
         due("at first", x.seed(-7), 0);
         due("again", x.seed(8), -7);
@@ -333,7 +291,7 @@ public final class PromisesTest {
     }
 
     private static void whispers() {
-        promise = 11;
+        about("promise 11");
         HallShells x = of(RING);
         for (int w = 0; w < 8; w++) {
             due("whisper", x.whisper(w % 3), w);
@@ -348,7 +306,7 @@ public final class PromisesTest {
     }
 
     private static void gives() {
-        promise = 12;
+        about("promise 12");
         HallShells x = of(RING);
         due("nobody held it", x.give(2, 1), NONE);
         due("1 held it", x.give(2, 1), 1);
@@ -362,7 +320,7 @@ public final class PromisesTest {
     }
 
     private static void lays() {
-        promise = 13;
+        about("promise 13");
         HallShells x = of(RING);
         due("2 held it", x.lay(0), 2);
         due("nobody", x.shell(0, 1), NONE);
@@ -373,7 +331,7 @@ public final class PromisesTest {
     }
 
     private static void gales() {
-        promise = 14;
+        about("promise 14");
         HallShells x = of(RING);
         due("it blew 1", x.gale(99), 1);
         due("n", x.gale(100), -3);
@@ -388,7 +346,7 @@ public final class PromisesTest {
     }
 
     private static void hoursPass() {
-        promise = 15;
+        about("promise 15");
         HallShells x = of(RING);
         x.whisper(0);
         x.whisper(1);
@@ -424,7 +382,7 @@ public final class PromisesTest {
     }
 
     private static void undoes() {
-        promise = 16;
+        about("promise 16");
         HallShells x = of(RING);
         x.whisper(0);
         x.give(2, 1);
@@ -456,7 +414,7 @@ public final class PromisesTest {
     }
 
     private static void judges() {
-        promise = 17;
+        about("promise 17");
         HallShells x = of("sea 2;current 0 1 takes 1;person at 1;person at 0;shell 0;hour 5;");
         due("missing", x.judge(0, 0), -6);
         fill(x, 0, 1, 0, -1, 1, 2003, -1, 100, 1000, 1000, 5);
@@ -498,7 +456,7 @@ public final class PromisesTest {
     }
 
     private static void performs() {
-        promise = 18;
+        about("promise 18");
         HallShells x = of("sea 2;current 0 1 takes 1;person at 1;person at 0;shell 0;hour 5;");
         due("missing", x.perform(0), -6);
         due("tray", x.perform(4), -2);
@@ -520,7 +478,7 @@ public final class PromisesTest {
     }
 
     private static void daysPass() {
-        promise = 19;
+        about("promise 19");
         HallShells x = of("sea 2;person at 1;person;shell 0;shell 1;");
         due("times", x.days(1, 0), -3);
         due("times", x.days(1, 31), -3);
@@ -582,7 +540,7 @@ public final class PromisesTest {
     }
 
     private static void comesIn() {
-        promise = 20;
+        about("promise 20");
         HallShells x = of(RING + "hour 0;");
         x.whisper(0);
         due("there", x.comesIn(0, 0), 0);
@@ -604,7 +562,7 @@ public final class PromisesTest {
     }
 
     private static void hearsIn() {
-        promise = 21;
+        about("promise 21");
         HallShells x = of(RING);
         x.whisper(0);
         due("in an hour", x.hearsIn(0, 0), 1);
@@ -635,7 +593,7 @@ public final class PromisesTest {
     }
 
     private static void heard() {
-        promise = 22;
+        about("promise 22");
         HallShells x = of(RING);
         due("word", x.heard(0, 0), -2);
         x.whisper(0);
@@ -651,7 +609,7 @@ public final class PromisesTest {
     }
 
     private static void loudest() {
-        promise = 23;
+        about("promise 23");
         HallShells x = of(RING);
         due("no words", x.loudest(0), NONE);
         due("n ahead of NONE", x.loudest(100), -3);
@@ -666,7 +624,7 @@ public final class PromisesTest {
     }
 
     private static void hearers() {
-        promise = 24;
+        about("promise 24");
         HallShells x = of(RING);
         x.whisper(0);
         due("0", x.hearers(0, 0, 0), 0);
@@ -688,7 +646,7 @@ public final class PromisesTest {
     }
 
     private static void far() {
-        promise = 25;
+        about("promise 25");
         HallShells x = of(RING);
         due("the same", x.far(1, 1), 0);
         due("0 to 2", x.far(0, 2), 4);
@@ -709,7 +667,7 @@ public final class PromisesTest {
     }
 
     private static void reaches() {
-        promise = 26;
+        about("promise 26");
         HallShells x = of(RING);
         due("there", x.reaches(0, 0), 1);
         due("by a shell", x.reaches(0, 2), 3);
@@ -727,7 +685,7 @@ public final class PromisesTest {
     }
 
     private static void secret() {
-        promise = 27;
+        about("promise 27");
         HallShells x = of("sea 3;current 0 1 takes 1;person at 0;person at 1;person at 2;open: hour < 5;hour 1;");
         due("0 alone: when the current is shut", x.secret(1, 10, 0), 4);
         due("0 alone", x.secret(1, 10, 1), 0);
@@ -754,7 +712,7 @@ public final class PromisesTest {
     }
 
     private static void widest() {
-        promise = 28;
+        about("promise 28");
         HallShells x = of(RING);
         due("0", x.widest(0), 0);
         due("from 2 two hear it", x.widest(1), 2);
@@ -764,7 +722,7 @@ public final class PromisesTest {
     }
 
     private static void shut() {
-        promise = 29;
+        about("promise 29");
         String two = "sea 4;current 0 1 takes 1;current 0 2 takes 1;current 1 3 takes 1;current 2 3 takes 2;"
             + "person at 3;person at 0;";
         HallShells x = of(two);
@@ -787,7 +745,7 @@ public final class PromisesTest {
     }
 
     private static void take() {
-        promise = 30;
+        about("promise 30");
         HallShells x = of("sea 3;current 0 1 takes 1;current 1 2 takes 1;person;person at 2;"
             + "shell 0 by 0;shell 1 by 0;shell 1 by 1;shell 2 by 0;shell 0;");
         due("one in 0 hours", x.take(0, 0, 0, 0), 0);
@@ -806,7 +764,7 @@ public final class PromisesTest {
     }
 
     private static void needs() {
-        promise = 31;
+        about("promise 31");
         HallShells x = of("sea 4;current 0 1 takes 1;current 0 2 takes 1;current 1 3 takes 1;current 2 3 takes 2;"
             + "person at 3;person at 1;");
         due("within 1: the way to 1", x.needs(0, 1), 1);
@@ -820,7 +778,7 @@ public final class PromisesTest {
     }
 
     private static void spies() {
-        promise = 32;
+        about("promise 32");
         HallShells x = of("sea 4;current 0 1 takes 2;current 1 2 takes 2;current 3 2 takes 2;");
         due("each only itself", x.spies(1, 1, 0), 1);
         due("the least", x.spies(1, 1, 1), 1);
@@ -840,7 +798,7 @@ public final class PromisesTest {
     }
 
     private static void watch() {
-        promise = 33;
+        about("promise 33");
         HallShells x = of("sea 4;current 0 1 takes 2;current 1 2 takes 2;current 3 2 takes 2;");
         due("0", x.watch(0), 4);
         due("1", x.watch(1), 4);
@@ -857,7 +815,7 @@ public final class PromisesTest {
         + "shell 1 by 0;shell 0 by 2;shell 0 by 4;shell 2 by 5;shell 1 by 3;shell 3 by 2;";
 
     private static void hears() {
-        promise = 34;
+        about("promise 34");
         HallShells x = of(TALK);
         due("1 by home, 2 by a shell", x.hears(0), 6);
         due("0 by home", x.hears(1), 1);
@@ -870,7 +828,7 @@ public final class PromisesTest {
     }
 
     private static void mutual() {
-        promise = 35;
+        about("promise 35");
         HallShells x = of(TALK);
         due("0 1, 0 2", x.mutual(), 2);
         x.give(0, 1);
@@ -881,7 +839,7 @@ public final class PromisesTest {
     }
 
     private static void passes() {
-        promise = 36;
+        about("promise 36");
         HallShells x = of(TALK);
         due("0 hears 1", x.passes(1, 0), 1);
         due("1 to 0 to nobody else: 2 has a shell", x.passes(1, 2), 1);
@@ -897,7 +855,7 @@ public final class PromisesTest {
     }
 
     private static void gift() {
-        promise = 37;
+        about("promise 37");
         HallShells x = of(TALK);
         // Shells 0 and 1 make 0 2 as they are; 2 hears 5 already. Shell 4 (beach 1) to 1 makes 1 2, to 5 it makes 2 5.
         due("shell 4 to 1", x.gift(), 41);
@@ -912,7 +870,7 @@ public final class PromisesTest {
     }
 
     private static void fits() {
-        promise = 38;
+        about("promise 38");
         HallShells x = of("sea 4;gale 1;sounds: (beach - 1) * hour * 2 + gale * 50;");
         due("missing", x.fits(0), -6);
         due("tray", x.fits(4), -2);
@@ -936,7 +894,7 @@ public final class PromisesTest {
     }
 
     private static void slips() {
-        promise = 39;
+        about("promise 39");
         HallShells x = of("sea 2;gale 2;");
         fill(x, 1, 1, 11, 1, -1, 10, 0);
         due("0", x.slips(1, 0), 2);
@@ -955,7 +913,7 @@ public final class PromisesTest {
     }
 
     private static void likeliest() {
-        promise = 40;
+        about("promise 40");
         HallShells x = of("sea 3;gale 2;");
         fill(x, 1, 1, 11, 1, -1, 10, 0);
         due("0 and 1 alike", x.likeliest(1), 0);
@@ -970,7 +928,7 @@ public final class PromisesTest {
     }
 
     private static void look() {
-        promise = 41;
+        about("promise 41");
         HallShells x = of("sea 4;hour 20;sounds: (beach - 1) * hour * gale + (beach * beach - beach) * (hour - 21);");
         fill(x, 0, 0, -1);
         // Hour 20: all 0. 21: all 0. 22: 0, 0, 2, 6. 23: 0, 0, 4, 12. Never all apart without a gale.
@@ -995,7 +953,7 @@ public final class PromisesTest {
     }
 
     private static void unlike() {
-        promise = 42;
+        about("promise 42");
         HallShells x = of("sea 3;hour 5;gale 3;sounds: beach * gale * 10 + (beach - 1) * (hour - 22);");
         due("itself", x.unlike(2, 2), 0);
         // Beaches 1 and 2: apart in the gale's three hours, behind that in hour 23 alone (below 0 is 0).
@@ -1008,7 +966,7 @@ public final class PromisesTest {
     }
 
     private static void pairs() {
-        promise = 43;
+        about("promise 43");
         HallShells x = of("sea 3;shell 0;shell 1;shell 0;shell 1;shell 2;");
         due("0 2, 1 3, 4 is left over", x.pairs(0), 0);
         due("0", x.pairs(10), 2);
@@ -1035,7 +993,7 @@ public final class PromisesTest {
     }
 
     private static void numbers() {
-        promise = 44;
+        about("promise 44");
         HallShells x = new HallShells();
         due("tray", x.numbers(4, 0, 0), -2);
         due("tray", x.numbers(-1, 0, 99), -2);
@@ -1055,7 +1013,7 @@ public final class PromisesTest {
     }
 
     private static void writes() {
-        promise = 45;
+        about("promise 45");
         HallShells x = new HallShells();
         long v = 0x123456789abcdef0L;
         for (int sort = 0; sort < 4; sort++) {
@@ -1076,7 +1034,7 @@ public final class PromisesTest {
     }
 
     private static void lists() {
-        promise = 46;
+        about("promise 46");
         HallShells x = of("sea 3;gale 2;shell 2;shell 1;");
         due("missing", x.lists(0, 0), -6);
         x.numbers(0, 0, 24);
@@ -1098,7 +1056,7 @@ public final class PromisesTest {
     }
 
     private static void images() {
-        promise = 47;
+        about("promise 47");
         HallShells x = of(RING);
         due("image", x.image(2), -2);
         due("image", x.image(-1), -2);
@@ -1114,7 +1072,7 @@ public final class PromisesTest {
     }
 
     private static void restores() {
-        promise = 48;
+        about("promise 48");
         HallShells x = of("sea 2;current 0 1 takes 3;person at 1;shell 1 by 0;sounds: beach + 5;open: hour > 0;listens: words < 2;hour 3;");
         due("none made", x.restore(0), -5);
         due("image", x.restore(2), -2);
@@ -1156,7 +1114,7 @@ public final class PromisesTest {
     }
 
     private static void counts() {
-        promise = 49;
+        about("promise 49");
         HallShells x = of(RING);
         x.whisper(0);
         feed(x, "sea");

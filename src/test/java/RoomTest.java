@@ -2,7 +2,7 @@ import java.lang.management.ManagementFactory;
 import java.nio.charset.StandardCharsets;
 
 /** All calls of a run live in one room: an object may be small when it is made, and calls make nothing. */
-public final class RoomTest {
+public final class RoomTest extends Sheet {
     private static final int CONSTRUCTOR_BYTES = 64_000;
     private static final int IMAGE_BYTES = 8_000;
     private static final String SEA = "sea 6;current 0 1 takes 1;current 1 2 takes 1;current 2 3 takes 1;"
@@ -14,7 +14,6 @@ public final class RoomTest {
     private static final int MEASURING_BYTES = 2_000;
     private static final com.sun.management.ThreadMXBean THREADS =
         (com.sun.management.ThreadMXBean) ManagementFactory.getThreadMXBean();
-    private static int wrong = 0;
     private static long sum = 0;
 
     private static long allocated() {
@@ -22,6 +21,7 @@ public final class RoomTest {
     }
 
     public static void main(String[] args) {
+        about("room");
         byte[] bytes = SEA.getBytes(StandardCharsets.ISO_8859_1);
         for (int round = 0; round < 3; round++) {
             allocated();
@@ -48,17 +48,7 @@ public final class RoomTest {
                 must(used <= MEASURING_BYTES, "calls take " + used + " bytes");
             }
         }
-        System.out.println(wrong == 0 ? "the room is kept to (" + sum + ")" : wrong + " times too much room");
-        if (wrong != 0) {
-            System.exit(1);
-        }
-    }
-
-    private static void must(boolean so, String what) {
-        if (!so) {
-            wrong++;
-            System.out.println(what);
-        }
+        end("the room is kept to (" + sum + ")");
     }
 
     private static void calls(HallShells x, byte[] text) {
