@@ -256,6 +256,10 @@ final class EdgesOfCalls extends Edges {
         due("just one of them never", x.secret(2, 1, 0), NONE);
         due("just these two never", x.secret(3, 1, 0), NONE);
         due("nobody: the first beach", x.secret(0, 1, 1), 0);
+        due("somebody always hears it", of("sea 1;person at 0;").secret(0, 1, 0), NONE);
+        String six = "sea 6;person at 0;person at 1;person at 2;person at 3;person at 4;person at 5;";
+        due("the last of six beaches", of(six).secret(32, 48, 1), 5);
+        due("none of six beaches", of(six).secret(0, 48, 1), NONE);
         x = of("sea 2;person at 0;person at 1;listens: hour = 0 and who = 0 or hour > 1 and who = 1;");
         // Within 1 hour person 0 hears what was whispered in hour 23 alone.
         due("the last w", x.secret(1, 1, 0), 23);
@@ -303,6 +307,8 @@ final class EdgesOfCalls extends Edges {
         due("48: three from 0", x.widest(48), 0);
         due("alike: the first", of("sea 3;person at 1;person at 2;").widest(9), 1);
         due("no people", new HallShells().widest(48), 0);
+        due("the last of six", of("sea 6;person at 5;").widest(1), 5);
+        due("none of six", of("sea 6;person;").widest(48), 0);
         sentence(28, "-3.");
         bounds("n", n -> x.widest(n), 0, 48, -3);
     }

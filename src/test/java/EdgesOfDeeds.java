@@ -160,6 +160,19 @@ final class EdgesOfDeeds extends Edges {
         due("the people stay", x.count(2), 1);
         seasInTheSameHour();
         longLawsAgain();
+        shorterLaw();
+    }
+
+    /** Of a longer law told before nothing is left. */
+    private static void shorterLaw() {
+        HallShells x = new HallShells();
+        tell(x, "sea 2;current 0 1 takes 1;open: not 1 = 1;", 3);
+        due("shut", x.current(0, 3), 0);
+        tell(x, "sea 2;current 0 1 takes 1;open: 1 = 1;", 3);
+        due("open", x.current(0, 3), 1);
+        tell(x, "sea 2;sounds: 7 * 8 * 9;", 2);
+        tell(x, "sea 2;sounds: 7;", 2);
+        due("sound", x.sound(0, 0), 7);
     }
 
     private static void tell(HallShells x, String text, int lines) {
@@ -580,6 +593,10 @@ final class EdgesOfDeeds extends Edges {
         due("4: a gale", x.days(Integer.MAX_VALUE, 1), 1);
         due("for 1 hour", x.count(6), 1);
         due("x", x.seed(0), -1858503659);
+        // 9 draws 20472, 43923: a word at beach 43923 modulo 1.
+        x = new HallShells();
+        due("2: a word", x.days(9, 1), 1);
+        due("at the only beach", x.word(0, 0), 1);
         daysOfGales();
         daysWithout();
         daysFull();

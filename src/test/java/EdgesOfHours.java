@@ -143,16 +143,23 @@ final class EdgesOfHours extends Edges {
         listensDayByDay();
     }
 
-    /** A person that hears one word more each day, asked in every hour. */
+    /** A person that hears more words each day, asked in every hour, in a gale and without one. */
     private static void listensDayByDay() {
-        HallShells x = of("sea 1;person at 0;listens: words = 0 or hour * 4 > words * 9;");
-        for (int words = 0; words <= 8; words++) {
+        HallShells x = of("sea 1;person at 0;listens: words = 0 or hour * 4 > words * 9 + gale * 20;");
+        int[] more = {1, 3, 3, 1, 0};
+        int words = 0;
+        for (int add : more) {
             for (int hour = 0; hour < 24; hour++) {
                 due(words + " words, hour " + hour, x.person(0, 4), words == 0 || hour * 4 > words * 9 ? 1 : 0);
+                x.gale(1);
+                due(words + " words, hour " + hour + ", a gale", x.person(0, 4), words == 0 || hour * 4 > words * 9 + 20 ? 1 : 0);
                 x.hours(1);
             }
-            x.whisper(0);
-            due("one word more", x.hours(24), words < 8 ? 1 : 0);
+            for (int w = 0; w < add; w++) {
+                x.whisper(0);
+            }
+            due("more words", x.hours(24), add);
+            words += add;
         }
     }
 

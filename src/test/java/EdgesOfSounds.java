@@ -89,6 +89,8 @@ final class EdgesOfSounds extends Edges {
         due("all", x.fits(0), 63);
         fill(x, 0, 0, NONE, 1);
         due("none", x.fits(0), 0);
+        fill(x, 0, 0, 14);
+        due("as a seventh beach would sound", x.fits(0), 0);
         sentence(38, "-2: the TRAY; -6; -4: not 1 to 24 numbers.");
         HallShells y = of("sea 2;");
         codes("fits", tray -> y.fits(tray), y);
@@ -128,6 +130,11 @@ final class EdgesOfSounds extends Edges {
         due("24 slips of all: the first", x.likeliest(0), 0);
         x.write(0, 23, 20);
         due("23 slips of 2", x.likeliest(0), 2);
+        fill(x, 0, 0, 30);
+        due("as a fourth beach would sound", x.likeliest(0), 0);
+        x = of("sea 6;hour 23;gale 1;");
+        fill(x, 0, 0, 51);
+        due("the last of six", x.likeliest(0), 5);
         sentence(40, "Codes as fits().");
         HallShells y = of("sea 2;");
         codes("likeliest", tray -> y.likeliest(tray), y);

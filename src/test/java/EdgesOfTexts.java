@@ -323,6 +323,8 @@ final class EdgesOfTexts extends Edges {
         fault("sea 1;sounds:((((((1234", 1, 19);
         fault("sea 1;sounds:(((((((1234", 4, 19);
         fault("1".repeat(900), 1, 0);
+        fault(" ".repeat(899) + "!", 1, 899);
+        fault("sea 1;" + "\n".repeat(890) + "1000", 1, 896);
         fault("sea 1;sounds:1 + 2_3", 1, 18);
     }
 
@@ -331,6 +333,10 @@ final class EdgesOfTexts extends Edges {
         fault("", 2, 0);
         fault(" ", 2, 1);
         fault("\n".repeat(900), 2, 900);
+        fault(" ".repeat(899) + ";", 2, 899);
+        fault(" ".repeat(899) + "s", 2, 899);
+        fault("sea 1;" + " ".repeat(891) + "hou", 2, 897);
+        fault("sea 1;" + " ".repeat(890) + "hour", 2, 900);
         fault("sea", 2, 3);
         fault("sea 1 ", 2, 6);
         fault("sea 1;hour", 2, 10);
